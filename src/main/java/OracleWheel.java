@@ -33,8 +33,9 @@ public final class OracleWheel {
         Hill laid = firstHill();
         hill = laid;
         spare = new Hill();
-        text = new Text();
-        scribe = new Scribe();
+        Text letters = new Text();
+        text = letters;
+        scribe = new Scribe(letters);
         now = new Moment();
         trial = new Moment();
         past = new Shelf(MOST_UNDONE);
@@ -61,11 +62,11 @@ public final class OracleWheel {
     }
 
     public int fault() {
-        return scribe.copyOut(text, spare);
+        return scribe.copyOut(spare);
     }
 
     public int lay() {
-        if (scribe.copyOut(text, spare) != NONE || spare.askers == 0) {
+        if (scribe.copyOut(spare) != NONE || spare.askers == 0) {
             return NO;
         }
         Hill laid = spare;
@@ -309,7 +310,7 @@ public final class OracleWheel {
         int above = 0;
         int spot = now.spotIn(hill, hill.step, hill.every, n);
         for (int g = 0; g <= n && g < chances.length; g++) {
-            if (hill.wordAround(spot + g) == w) {
+            if (hill.wordAt(hill.spotAround(spot + g)) == w) {
                 above += chances[g];
             }
         }
@@ -380,13 +381,13 @@ public final class OracleWheel {
     // ---- helpers
 
     private static Hill firstHill() {
-        Text words = new Text();
+        Text letters = new Text();
         for (int i = 0; i < FIRST_TEXT.length(); i++) {
-            words.append(FIRST_TEXT.charAt(i));
+            letters.append(FIRST_TEXT.charAt(i));
         }
-        Hill first = new Hill();
-        new Scribe().copyOut(words, first);
-        return first;
+        Hill laid = new Hill();
+        new Scribe(letters).copyOut(laid);
+        return laid;
     }
 
     private static boolean isWord(int w) {
@@ -572,10 +573,6 @@ public final class OracleWheel {
             return words < 1 ? 0 : Math.floorMod(spot, words);
         }
 
-        int wordAround(int spot) {
-            return wordAt(spotAround(spot));
-        }
-
         int otherEnd(int w, int place) {
             if (!hasWay(w)) {
                 return NONE;
@@ -606,21 +603,21 @@ public final class OracleWheel {
     // Reads a text, item by item, into a hill.
     private static final class Scribe {
         final int[] told;
-        Text text;
+        final Text text;
         int at;
 
-        Scribe() {
+        Scribe(Text letters) {
             told = new int[4];
+            text = letters;
         }
 
         // Answers the FAULT, or NONE; the hill is of use only then.
-        int copyOut(Text source, Hill hill) {
-            text = source;
+        int copyOut(Hill hill) {
             at = 0;
             hill.clear();
-            for (int item = 0; item < MOST_LETTERS && at < source.length; item++) {
+            for (int item = 0; item < MOST_LETTERS && at < text.length; item++) {
                 int start = at;
-                char letter = source.letterAt(start);
+                char letter = text.letterAt(start);
                 at = start + 1;
                 if (!copyItem(letter, hill) || !takes(';')) {
                     return start;
@@ -649,8 +646,7 @@ public final class OracleWheel {
         boolean copyRing(Hill hill) {
             hill.words = 0;
             for (int i = 0; i < MOST_WORDS; i++) {
-                char letter = letterHere();
-                int w = letter == 0 ? -1 : WORD_LETTERS.indexOf(letter);
+                int w = WORD_LETTERS.indexOf(text.letterAt(at));
                 if (w < 0) {
                     break;
                 }
@@ -700,11 +696,11 @@ public final class OracleWheel {
 
         boolean takesNumbers(int many) {
             for (int i = 0; i < many && i < told.length; i++) {
-                if (i > 0 && !takes(',') || !isFigure(letterHere())) {
+                if (i > 0 && !takes(',') || !isAtFigure()) {
                     return false;
                 }
                 told[i] = takeFigure();
-                if (isFigure(letterHere())) {
+                if (isAtFigure()) {
                     told[i] = 10 * told[i] + takeFigure();
                 }
             }
@@ -712,24 +708,21 @@ public final class OracleWheel {
         }
 
         int takeFigure() {
-            int figure = letterHere() - '0';
+            int figure = text.letterAt(at) - '0';
             at++;
             return figure;
         }
 
         boolean takes(char letter) {
-            if (letterHere() != letter) {
+            if (text.letterAt(at) != letter) {
                 return false;
             }
             at++;
             return true;
         }
 
-        char letterHere() {
-            return text == null ? 0 : text.letterAt(at);
-        }
-
-        static boolean isFigure(char letter) {
+        boolean isAtFigure() {
+            char letter = text.letterAt(at);
             return letter >= '0' && letter <= '9';
         }
     }
@@ -775,7 +768,8 @@ public final class OracleWheel {
         int spotIn(Hill hill, int step, int every, int t) {
             int still = Math.min(footLeft, t);
             int extras = every < 1 ? 0 : (hour + t) / every - (hour + still) / every;
-            return hill.spotAround(spot + step * (t - still) + hill.more * extras);
+            int turned = spot + step * (t - still) + hill.more * extras;
+            return hill.words < 1 ? 0 : Math.floorMod(turned, hill.words);
         }
 
         int uppermost(Hill hill, int t) {
