@@ -396,6 +396,9 @@ public final class OracleWheel {
 
     // Leaves the words of these hours in the outlook, for who looks for one of them.
     private int soonestTop(Moment moment, int a) {
+        if (!hill.hasAsker(a)) {
+            return NONE;
+        }
         outlook.prepare(hill, moment);
         outlook.mark(moment.left[a], moment.place[a], 1);
         outlook.spread(hill, moment.hour);
@@ -451,11 +454,7 @@ public final class OracleWheel {
         if (hill.askers < 1 || hill.ways < 1) {
             return;
         }
-        int a = draw % hill.askers;
-        int w = draw / 4 % hill.ways;
-        if (trial.hoursToSetOut(hill, a, w) != NONE) {
-            trial.leave(hill, a, w);
-        }
+        trial.leave(hill, draw % hill.askers, draw / 4 % hill.ways);
     }
 
     // ---- what the calls work with
@@ -817,7 +816,7 @@ public final class OracleWheel {
             return hill.hoursBy(w, hour, uppermost(hill, 0));
         }
 
-        // For an asker who can set out by this way.
+        // An asker who can't set out by this way stays.
         void leave(Hill hill, int a, int w) {
             int hours = hoursToSetOut(hill, a, w);
             if (hours != NONE) {
