@@ -80,10 +80,8 @@ public final class OracleWheel {
     }
 
     public int word(int k) {
-        if (k < 0 || k >= MOST_WORDS) {
-            return BAD;
-        }
-        return k < hill.words ? hill.wordAt(k) : NONE;
+        // No upper number is told: a place behind the RING is NONE, however far behind.
+        return k < 0 ? BAD : hill.wordAt(k);
     }
 
     public int way(int w, int what) {

@@ -247,7 +247,7 @@ public final class ModelRuns {
                     seen.clear();
                     return told.places;
                 }
-                case "word": return !in(v[0], 0, 11) ? BAD : v[0] < told.ring.size() ? told.ring.get(v[0]) : NONE;
+                case "word": return v[0] < 0 ? BAD : v[0] < told.ring.size() ? told.ring.get(v[0]) : NONE;
                 case "way":
                     if (!isWay(v[0]) || !in(v[1], 0, 3)) return BAD;
                     return v[1] == 3 ? now.hoursNow(v[0]) : told.ways.get(v[0])[v[1]];

@@ -197,8 +197,12 @@ public final class PromiseTests {
         for (int k = 0; k < 12; k++) due("word(" + k + ")", x.word(k), want[k]);
         x.pass(3);
         due("the ring stays", x.word(0), B);
-        bad(x.word(-1), x.word(12), x.word(MIN), x.word(MAX));
-        due("the twelfth", laid("ryyyyyyyyyyyb;a0,0;").word(11), B);
+        for (int k : new int[] {12, 13, 199, 627202352, MAX}) due("word(" + k + ")", x.word(k), NONE);
+        bad(x.word(-1), x.word(-2), x.word(MIN));
+        for (int k : new int[] {6, 11, 12, MAX}) due("at first word(" + k + ")", new OracleWheel().word(k), NONE);
+        OracleWheel twelve = laid("ryyyyyyyyyyyb;a0,0;");
+        due("the twelfth", twelve.word(11), B);
+        due("behind the twelfth", twelve.word(12), NONE);
     }
 
     static void way() {
