@@ -529,8 +529,10 @@ public final class ModelRuns {
         int calls = 0;
         while (calls < 512 && wrong < 20) {
             if (calls > 0 && draw(70) == 0 || calls == 0 && run % 4 > 0) {
-                both(run, x, model, "wipe", new int[0]);
                 String text = drawText();
+                // behind 512 calls every answer is free
+                if (calls + text.length() + 4 > 512) break;
+                both(run, x, model, "wipe", new int[0]);
                 for (char c : text.toCharArray()) both(run, x, model, "write", new int[] {c});
                 both(run, x, model, "fault", new int[0]);
                 both(run, x, model, "lay", new int[0]);

@@ -701,8 +701,8 @@ public final class PromiseTests {
 
     // Four are on top, and the first alone gets what he wants; of five ways but two begin there.
     static void draws() {
-        OracleWheel x = laid("ryn;s0,24,0;w0,0,1,12;w0,1,2,1;w0,3,1,1;w0,2,0,12;w0,3,2,1;a0,0;a0,1;a0,1;a0,1;");
         for (int z = 0; z <= 9999; z += 101) {
+            OracleWheel x = laid("ryn;s0,24,0;w0,0,1,12;w0,1,2,1;w0,3,1,1;w0,2,0,12;w0,3,2,1;a0,0;a0,1;a0,1;a0,1;");
             java.util.Set<Integer> away = new java.util.HashSet<>();
             int often = 0;
             for (int k = 0; k < 12; k++) {
