@@ -300,6 +300,15 @@ final class ComingSentences extends Sentences {
         laid("rynnnnnnn;s1,24,0;w0,1,2,2;w3,1,0,3;a1,0;").run("pass 1").due("first 0", 0);
     }
 
+    static void promise20HourWhenBegun() {
+        says("one of GOATS can not be begun, if the hour is 0 modulo 3");
+        // straight is as soon as by goats for whom he has to wait an hour, and an hour later than by others
+        for (int hours = 1; hours <= 6; hours++) {
+            Oracle x = laid("s0,24,0;w0,2,0," + (hours + 6) + ";w0,2,1," + hours + ";w2,1,0,5;a2,0;");
+            for (int hour = 0; hour <= 6; hour++) x.due("first 0", (hour + hours) % 3 == 0 ? 0 : 1).run("pass 1");
+        }
+    }
+
     static void promise20Wait() {
         says("10, if there is none, and he has to wait");
         laid("w2,1,0,9;a1,0;").due("first 0", 10).run("pass 1").due("first 0", 0).run("pass 1").due("first 0", 0)

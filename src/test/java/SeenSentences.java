@@ -133,6 +133,15 @@ final class SeenSentences extends Sentences {
             .due("from 0 1", 1).due("from 1 2", 3).due("from 0 3", 3).due("from 1 4", 7);
     }
 
+    static void promise24HourWhenBegun() {
+        says("A WAY takes D hours either way, a STAIR twice as many, if it is an odd hour when it is begun");
+        Oracle x = laid("ryy;s0,24,0;w2,1,0,1;w1,2,0,1;w0,3,2,2;a0,0;");
+        for (int hour = 0; hour <= 6; hour++) {
+            int now = 1 + (hour % 3 == 0 ? 0 : 2) + (hour % 2 == 0 ? 4 : 0);
+            x.due("from 0 1", now).due("from 0 2", 7).due("from 0 3", hour % 2 == 0 ? 15 : 7).due("from 0 4", 15).run("pass 1");
+        }
+    }
+
     static void promise24LastHour() {
         says("one can be on top behind t hours (0 to 99)");
         laid("rnnnnnnny;s0,14,1;w3,1,0,1;w3,2,0,2;a1,0;").due("from 0 99", 3).due("from 0 98", 1).due("from 1 97", 1);

@@ -68,6 +68,11 @@ final class YearSentences extends Sentences {
         chance(foot, "0 2 5", 1, 4);
         chance(foot, "1 2 5", 1, 2);
         chance(foot, "1 4 0", 1, 1);
+        Oracle law = laid("rynpb;s0,5,3;a0,0;");
+        chance(law, "0 4 0", 1, 1);
+        chance(law, "3 5 0", 1, 1);
+        chance(law.run("pass 4"), "3 1 5", 1, 2);
+        chance(law, "2 6 0", 1, 1);
         // turns that go around come together
         chance(laid("ryn;s0,24,0;a0,0;"), "0 8 5", 1, 2);
         chance(laid("rnnn;a0,0;"), "1 8 3", 1, 1);
