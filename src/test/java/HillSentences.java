@@ -15,6 +15,11 @@ final class HillSentences extends Sentences {
         says("at first " + text);
         anew().sameAs(laid(text).run("wipe"));
         anew().uppers("ypbypnn");
+        // the lees can be begun at hour 0, and the goats at hour 1
+        Oracle x = anew();
+        int[][] ways = {{0, 0, 1, 3}, {1, 1, 2, 4}, {2, 2, 3, NONE}, {3, 0, 3, 6}, {0, 3, 4, 5}, {1, 4, 5, 2}, {3, 5, 0, 9}};
+        for (int w = 0; w < ways.length; w++) for (int what = 0; what < 4; what++) x.due("way " + w + " " + what, ways[w][what]);
+        x.run("pass 1").due("way 1 3", 8).due("way 2 3", 2).due("way 3 3", NONE).due("way 5 3", 4).due("way 6 3", NONE);
     }
 
     static void promise01HourAndWord() {

@@ -24,6 +24,7 @@ final class Report {
 
     static void say(String what) {
         wrong++;
-        System.out.println("promise " + promise + ", \"" + sentence + "\": " + what);
+        String where = promise > 0 ? "promise " + promise + ", " : "";
+        System.out.println(where + "\"" + sentence + "\": " + what);
     }
 }
