@@ -30,12 +30,18 @@ public final class OracleWheel {
     private Hill spare;
 
     public OracleWheel() {
-        Hill laid = firstHill();
+        Text letters = new Text();
+        Scribe reader = new Scribe(letters);
+        Hill laid = new Hill();
+        for (int i = 0; i < FIRST_TEXT.length(); i++) {
+            letters.append(FIRST_TEXT.charAt(i));
+        }
+        reader.copyOut(laid);
+        letters.length = 0;
+        text = letters;
+        scribe = reader;
         hill = laid;
         spare = new Hill();
-        Text letters = new Text();
-        text = letters;
-        scribe = new Scribe(letters);
         now = new Moment();
         trial = new Moment();
         past = new Shelf(MOST_UNDONE);
@@ -377,16 +383,6 @@ public final class OracleWheel {
     }
 
     // ---- helpers
-
-    private static Hill firstHill() {
-        Text letters = new Text();
-        for (int i = 0; i < FIRST_TEXT.length(); i++) {
-            letters.append(FIRST_TEXT.charAt(i));
-        }
-        Hill laid = new Hill();
-        new Scribe(letters).copyOut(laid);
-        return laid;
-    }
 
     private static boolean isWord(int w) {
         return w >= 0 && w <= LAST_WORD;
